@@ -402,7 +402,7 @@ public final class VeilNations {
     }
 
     private static boolean isOne(int one) {
-        return within(one, 0, ONES - 1);
+        return one >= 0 && one < ONES;
     }
 
     private static boolean has(int bits, int i) {
@@ -503,7 +503,7 @@ public final class VeilNations {
         }
 
         int thickOf(int one) {
-            return isOne(one) && isDown(one) ? Math.max(meshes[one] - tears[one], 0) : 0;
+            return isOne(one) && has(veils, one) ? Math.max(meshes[one] - tears[one], 0) : 0;
         }
 
         int treaties() {
@@ -582,8 +582,10 @@ public final class VeilNations {
                 case GUST:
                     blow(other);
                     return 0;
-                default:
+                case DAY:
                     return passDay();
+                default:
+                    return 0;
             }
         }
 
@@ -841,7 +843,7 @@ public final class VeilNations {
         }
     }
 
-    /** Sums of stamps of three worths, each put at most once into a row and used again. */
+    /** Sums of stamps of three worths; one row serves every question. */
     private static final class Stamps {
         // Three worths up to 20 without a common divisor leave no sum from 19 times 19 on unpaid.
         private static final int SUMS = 401;
@@ -883,7 +885,7 @@ public final class VeilNations {
                 row[s] = s == 0 ? 1 : 0;
             }
             for (int worth : worths) {
-                for (int s = Math.max(worth, 1); s <= sum && s < SUMS; s++) {
+                for (int s = worth; worth > 0 && s <= sum && s < SUMS; s++) {
                     row[s] += row[s - worth];
                 }
             }

@@ -413,8 +413,10 @@ final class Twin {
         }
         if (what == 2) {
             int gap = NONE;
-            for (int sum = 1; sum <= 700; sum++) {
-                gap = ways(a, b, c, sum)[1] == 0 ? sum : gap;
+            boolean[] paid = new boolean[701];
+            for (int sum = 0; sum <= 700; sum++) {
+                paid[sum] = sum == 0 || sum >= a && paid[sum - a] || sum >= b && paid[sum - b] || sum >= c && paid[sum - c];
+                gap = paid[sum] ? gap : sum;
             }
             // Sums over 400 can only miss where the worths share a divisor, and then they miss for ever.
             return gap > 400 ? NONE : gap;

@@ -2,7 +2,7 @@ import java.util.Random;
 
 /** Runs of 512 drawn calls, each answered by the class as by its twin; the seeds are fixed, so each run is the same. */
 public final class TwinTest {
-    private static final int RUNS = 400, CALLS = 512;
+    private static final int RUNS = 200, CALLS = 512;
     private static final String DEEDS = "_^/%";
 
     private final Random random;
