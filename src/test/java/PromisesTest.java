@@ -290,6 +290,8 @@ public final class PromisesTest {
         due("two in a day, one between two nations", 2, x.judge(2));
         write(x, "..");
         due("the second day takes none", 2, x.judge(2));
+        write(x, "A_A^C~EC/C%g1g9");
+        due("only x and days annex", 0, x.judge(2));
         write(x, ".AxB");
         due("a third by hand", 3, x.judge(2));
     }
@@ -578,6 +580,8 @@ public final class PromisesTest {
         due("fewest of 0", 0, x.stamps(5, 6, 7, 0, 0));
         due("ways of 0", 1, x.stamps(5, 6, 7, 0, 1));
         due("fewest, not greedy", 2, x.stamps(1, 15, 20, 30, 0));
+        due("the second is better by one", 1, x.stamps(1, 2, 2, 2, 0));
+        due("the first is better", 1, x.stamps(2, 1, 1, 2, 0));
         due("not to be paid", NONE, x.stamps(20, 20, 20, 199, 0));
         due("in no way", 0, x.stamps(20, 20, 20, 199, 1));
         due("kinds alike", 66, x.stamps(20, 20, 20, 200, 1));
@@ -586,6 +590,8 @@ public final class PromisesTest {
         due("gap", 43, x.stamps(6, 9, 20, 200, 2));
         due("no gap", NONE, x.stamps(1, 20, 20, 7, 2));
         due("no greatest gap", NONE, x.stamps(5, 10, 20, 7, 2));
+        due("no greatest gap", NONE, x.stamps(4, 6, 8, 7, 2));
+        due("no greatest gap", NONE, x.stamps(19, 19, 19, 7, 2));
         due("alike in twos only", 29, x.stamps(6, 10, 15, 7, 2));
         due("greatest of all", 341, x.stamps(19, 19, 20, 7, 2));
         due("again, other worths", 1, x.stamps(2, 3, 3, 7, 2));
@@ -670,6 +676,11 @@ public final class PromisesTest {
         x.seen(4, false);
         due("nothing fits", NONE, x.ask(0));
         due("nothing fits", NONE, x.ask(1));
+        x.forget();
+        x.seen(9, true);
+        x.seen(27, true);
+        due("the last evening", 60, x.ask(0));
+        due("left", 17, x.ask(1));
         due("outside comes first", OUTSIDE, x.ask(2));
     }
 
@@ -680,6 +691,15 @@ public final class PromisesTest {
         x.one(5, 0, 1, 3, 0);
         due("one down", 1, x.lift(0));
         due("lifted alone", 55, x.lift(1));
+        x.one(0, 0, 1, 3, 0);
+        due("A's, too", 50, x.lift(1));
+        x.one(5, 0, 0, 3, 0);
+        due("A's alone", 0, x.lift(1));
+        x.one(1, 0, 1, 3, 0);
+        due("A's and B's", 10, x.lift(1));
+        x.one(0, 0, 0, 3, 0);
+        x.one(1, 0, 0, 3, 0);
+        x.one(5, 0, 1, 3, 0);
         x.one(2, 0, 1, 3, 0);
         due("both at once", 52, x.lift(1));
         x.one(2, 0, 0, 3, 0);
@@ -702,6 +722,8 @@ public final class PromisesTest {
         due("ahead", 3, x.votes(2, 1, 0, 1));
         due("lowest terms", 1, x.votes(6, 2, 0, 0));
         due("lowest terms", 2, x.votes(6, 2, 0, 1));
+        due("lowest terms", 1, x.votes(4, 2, 0, 0));
+        due("lowest terms", 3, x.votes(4, 2, 0, 1));
         due("never behind", 3, x.votes(4, 2, 1, 0));
         due("never behind", 5, x.votes(4, 2, 1, 1));
         due("a tie is not behind", 1, x.votes(1, 1, 1, 0));
