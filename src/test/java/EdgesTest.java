@@ -8,6 +8,7 @@ public final class EdgesTest extends ByHand {
         Checks.check("empty: hair", EdgesTest::noHair);
         Checks.check("empty: treaties", EdgesTest::noTreaties);
         Checks.check("empty: images", EdgesTest::noImages);
+        Checks.check("images: what comes behind does not touch them", EdgesTest::imagesStay);
         Checks.check("full: the pad", EdgesTest::fullPad);
         Checks.check("full: sights", EdgesTest::fullSights);
         Checks.check("full: tears", EdgesTest::fullTears);
@@ -23,6 +24,7 @@ public final class EdgesTest extends ByHand {
         Checks.check("reasons: tears and hair", EdgesTest::reasonsOfTears);
         Checks.check("reasons: the last day", EdgesTest::reasonOfDays);
         Checks.check("reasons: what stands behind counts no more", EdgesTest::behindTheFirst);
+        Checks.check("now: a text that is not done changes nothing", EdgesTest::asThingsAreNow);
         Checks.check("faults: signs that can not stand there", EdgesTest::faultsOfSigns);
         Checks.check("faults: more must come", EdgesTest::faultsOfEnds);
         Checks.check("faults: a faulty text is judged no further", EdgesTest::faultsComeFirst);
@@ -185,6 +187,59 @@ public final class EdgesTest extends ByHand {
         due("hair", 50, x.told(2));
         due("an image stays kept", 1, x.restore(1));
         due("still not that one", STATE, x.restore(0));
+    }
+
+    private static void changeAll(Counted x, int one, int call) {
+        write(x, "A/.");
+        x.done();
+        x.one(one, 3, 1, 8, 7);
+        x.treaty(one, (one + 1) % 8, true);
+        x.hair(80 + one);
+        x.pay(call, 7, 70 + call);
+        x.seen(one, true);
+    }
+
+    private static void asAtFirst(Counted x, int one, int call) {
+        due("nation", 0, x.told(100 + 10 * one));
+        due("mesh", 3, x.told(101 + 10 * one));
+        due("tears", 0, x.told(102 + 10 * one));
+        due("tears of the first", 0, x.told(102));
+        due("treaties", 0, x.told(10 + one));
+        due("treaties", 0, x.told(10 + (one + 1) % 8));
+        due("veils", 0, x.told(1));
+        due("hair", 9, x.told(2));
+        due("day", 0, x.told(3));
+        due("sights", 0, x.told(4));
+        due("all fit", 112, x.fits(-1));
+        due("minutes", 1, x.told(20 + call));
+        due("due", 0, x.told(30 + call));
+    }
+
+    private static void imagesStay() {
+        Counted x = new Counted();
+        x.image(0);
+        for (int i = 0; i < 8; i++) {
+            changeAll(x, i, i % 6);
+            x.image(1);
+            due("as at first", 1, x.restore(0));
+            asAtFirst(x, i, i % 6);
+            changeAll(x, (i + 3) % 8, (i + 1) % 6);
+            due("as it was last", 1, x.restore(1));
+            due("nation", 3, x.told(100 + 10 * i));
+            due("veils", 1 << i, x.told(1));
+            due("hair", 80 + i, x.told(2));
+            due("day", 1, x.told(3));
+            due("sights", 1, x.told(4));
+            due("treaties of all", 1, x.states(6));
+            due("minutes", 7, x.told(20 + i % 6));
+            x.restore(0);
+        }
+        write(x, "A_B_");
+        x.image(0);
+        write(x, "C^");
+        x.restore(0);
+        due("the pad is in no image", 2, x.told(0));
+        due("the pad is as it was written", 1, x.judge(1));
     }
 
     private static void fullPad() {
@@ -563,6 +618,45 @@ public final class EdgesTest extends ByHand {
         due("nothing is done", 1, x.told(1));
         due("nothing is done", 0, x.told(3));
         due("the text stays", 8, x.told(0));
+    }
+
+    private static void asThingsAreNow() {
+        Counted x = new Counted();
+        x.one(4, 2, 1, 6, 0);
+        int seen = x.sees(0, 5);
+        int camp = x.camps(1);
+        int first = x.lift(1);
+        int[] year = {x.year(3, 20, 0), x.year(3, 20, 1), x.year(3, 20, 2)};
+        due("not through hers", 254 - 16, seen);
+        due("2 in the other camp", 255 - 16, camp);
+        due("hers", 44, first);
+        write(x, "AxEB_C_C/D~F.");
+        due("two veils behind the text", 6, veilsBehind(x));
+        due("sees", seen, x.sees(0, 5));
+        due("camps", camp, x.camps(1));
+        due("lift", first, x.lift(1));
+        for (int what = 0; what < 3; what++) {
+            due("year", year[what], x.year(3, 20, what));
+        }
+        due("veils", 16, x.told(1));
+        due("treaties", 0, x.told(13));
+        due("nation", 2, x.told(140));
+        x.image(0);
+        x.restore(0);
+        due("still behind the text alone", 6, veilsBehind(x));
+        due("acts", 6, x.done());
+        due("veils", 6, x.told(1));
+        due("sees all but 1", 254 - 2, x.sees(0, 2));
+        due("no quarrel", 1, x.camps(1));
+        due("lift", 21, x.lift(1));
+    }
+
+    private static int veilsBehind(Counted x) {
+        int bits = 0;
+        for (int one = 0; one < 8; one++) {
+            bits |= x.behind(one, 1) << one;
+        }
+        return bits;
     }
 
     private static void faulty(String text, int place) {
