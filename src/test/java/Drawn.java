@@ -8,10 +8,15 @@ final class Drawn {
     private static final int[] FAR = {Integer.MIN_VALUE, Integer.MAX_VALUE, Integer.MIN_VALUE + 1, -2, -7, 1000};
 
     private final Random random;
+    /** A rhythm by which most evenings are seen, so that some fit for long. */
+    private final int m, c, f;
     private String planned = "";
 
     Drawn(long seed) {
         random = new Random(seed);
+        m = 2 + below(6);
+        c = 1 + below(m - 1);
+        f = below(m);
     }
 
     int below(int end) {
@@ -50,6 +55,7 @@ final class Drawn {
             case PAY -> p[2] = below(2) == 0 ? number(Limit.to(25)) : p[2];
             case SAY -> p[0] = sign();
             case SEES -> p[1] = below(2) == 0 ? number(Limit.to(30)) : p[1];
+            case SEEN -> p[1] = below(8) == 0 ? p[1] : (Math.floorMod(p[0], 61) + f) % m < c ? 1 : 0;
             case FITS -> p[0] = below(2) == 0 ? -1 : number(new Limit(-1, 112 >> below(7), VeilNations.NONE));
             case TOLD -> p[0] = below(4) == 0 ? p[0] : toldOf(below(5));
             default -> { }
@@ -102,7 +108,7 @@ final class Drawn {
     private String act() {
         char a = (char) ('A' + below(8));
         char b = (char) ('A' + below(8));
-        switch (below(7)) {
+        switch (below(9)) {
             case 0:
                 return "" + a + 'x' + b;
             case 1:
@@ -113,6 +119,10 @@ final class Drawn {
                 return ".";
             case 4:
                 return a + "_";
+            case 5:
+                return b + "_" + a + 'x' + b;
+            case 6:
+                return a + "/" + a + '%';
             default:
                 return "" + a + DEEDS.charAt(below(4));
         }

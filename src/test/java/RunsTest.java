@@ -23,6 +23,7 @@ public final class RunsTest extends ByHand {
     public static void main(String[] args) {
         Checks.check("runs: one whole life by hand", RunsTest::lifeByHand);
         Checks.check("runs: every call as the 512th", RunsTest::lastCalls);
+        Checks.check("runs: 512 times the same call", RunsTest::sameCalls);
         Checks.check("runs: a text is judged by what is now", RunsTest::judgedByNow);
         Checks.check("runs: calls that only tell change no answer", RunsTest::tellingChangesNoAnswer);
         Checks.check("runs: calls that only tell change nothing", RunsTest::tellingChangesNothing);
@@ -332,6 +333,27 @@ public final class RunsTest extends ByHand {
             numbers[0] = kind == Kind.SAY ? '.' : 1;
             numbers[1] = kind == Kind.TREATY ? 2 : 1;
             due("the 512th: " + kind.call(), kind.of(new Counted(), numbers), kind.of(x, numbers));
+        }
+    }
+
+    /** Behind the first calls, that fill what can be full, each answers as the one before. */
+    private static void sameCalls() {
+        int[] numbers = {1, 2, 1, 1, 1};
+        for (Kind kind : Kind.values()) {
+            numbers[0] = kind == Kind.SAY ? '.' : kind == Kind.STAMPS ? 3 : 1;
+            Counted x = new Counted();
+            int count = kind == Kind.SAY ? 60 : kind == Kind.SEEN ? 8 : 0;
+            for (int i = 1; i <= count; i++) {
+                due(kind.call() + ", time " + i, i, kind.of(x, numbers));
+            }
+            long first = kind.of(x, numbers);
+            long second = kind.of(x, numbers);
+            if (kind.onlyTells() || count > 0) {
+                due(kind.call() + " twice", first, second);
+            }
+            while (x.left() > 0) {
+                due(kind.call() + ", " + x.left() + " left", second, kind.of(x, numbers));
+            }
         }
     }
 
