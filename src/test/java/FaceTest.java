@@ -106,6 +106,11 @@ public final class FaceTest {
             if (fields > 22) {
                 Checks.wrong("too many fields: " + inner.getName());
             }
+            for (Method method : inner.getDeclaredMethods()) {
+                if (method.getParameterCount() > 7) {
+                    Checks.wrong("too many parameters: " + method);
+                }
+            }
         }
     }
 

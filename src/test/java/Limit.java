@@ -12,8 +12,4 @@ record Limit(int least, int most, int refusal) {
     static Limit from(int least, int most) {
         return new Limit(least, most, VeilNations.OUTSIDE);
     }
-
-    boolean allows(int number) {
-        return refusal == 0 || number >= least && number <= most;
-    }
 }

@@ -21,6 +21,7 @@ public final class TwinTest {
     public static void main(String[] args) {
         Checks.check("drawn calls of all kinds", () -> runs("all", ALL, 0));
         Checks.check("drawn calls of acts and days", () -> runs("days", DAYS, RUNS));
+        Checks.check("drawn texts, as long as all can be", TwinTest::longTexts);
         Checks.check("stamps of all worths", TwinTest::allStamps);
         Checks.check("votes of all numbers", TwinTest::allVotes);
         Checks.check("all lifts", TwinTest::allLifts);
@@ -40,6 +41,37 @@ public final class TwinTest {
                 }
             }
             run.askWhatIsTold();
+        }
+    }
+
+    private static void longTexts() {
+        for (int seed = 0; seed < RUNS; seed++) {
+            TwinTest run = new TwinTest("texts " + seed, seed);
+            run.dressAll();
+            while (run.real.left() > LAST_CALLS) {
+                run.sayMore();
+            }
+            run.askWhatIsTold();
+        }
+    }
+
+    // A text with an act that can not be tells no more, so it is soon wiped; a long one is done.
+    private void sayMore() {
+        for (Step step : drawn.some(Kind.SAY)) {
+            same(step);
+        }
+        for (int what = 0; what < 3; what++) {
+            same(Kind.JUDGE, what);
+        }
+        same(Kind.ANNEXED, 0);
+        same(Kind.ANNEXED, 1);
+        for (Kind kind : List.of(Kind.BEHIND, Kind.BEHIND, Kind.STATES)) {
+            same(drawn.one(kind));
+        }
+        if (twin.judge(2) < 0 && drawn.below(2) == 0) {
+            same(drawn.one(Kind.WIPE));
+        } else if (twin.told(0) > 20 && drawn.below(4) == 0) {
+            same(Kind.DONE);
         }
     }
 
