@@ -760,7 +760,11 @@ public final class PromisesTest extends ByHand {
         x.one(3, 0, 1, 9, 9);
         lives(x, "no tear more than 9", 3, 1, 8, 1, 0);
         due("nothing is done", 9, x.told(132));
-        due("the longest year of the last seed", new Twin().year(9999, 99, 2), new Counted().year(9999, 99, 2));
+        Counted unveiled = new Counted();
+        lives(unveiled, "the longest year of the last seed", 9999, 99, 8, 0, 7);
+        lives(unveiled, "less of it", 9999, 64, 8, 0, 5);
+        lives(unveiled, "of another seed", 4321, 99, 8, 4, 10);
+        lives(unveiled, "65549 goes round to 12: E lets hers down", 873, 1, 8, 1, 0);
     }
 
     private static void yearRefusals() {
